@@ -272,7 +272,7 @@ public final class IntruderSearch {
         attackLength = NONE;
     }
 
-    /** Reads the assignment off its number; answers false if the number stands for none. */
+    /** False where the number stands for no assignment: there may be fewer atoms or variables than it has room for. */
     private boolean chooseAtoms(int code) {
         int rest = code;
         for (int v = MAX_VARS - 1; v >= 0; v--) {
@@ -304,7 +304,7 @@ public final class IntruderSearch {
         }
     }
 
-    /** Gives each cell a twin: one cell that stands for all cells whose trees the assignment makes equal. */
+    /** One twin stands for all cells that the assignment makes equal, so that no trees need be compared after this. */
     private void joinEqualCells() {
         for (int t = 0; t < cellCount; t++) {
             switch (kinds[t]) {
@@ -321,7 +321,7 @@ public final class IntruderSearch {
         }
     }
 
-    /** Makes each cell its own twin, which is right for ground terms: distinct cells are distinct trees. */
+    /** Ground terms need no joining: distinct cells are distinct trees. A variable is never derived here. */
     private void keepCellsApart() {
         for (int t = 0; t < cellCount; t++) {
             twins[t] = t;
@@ -339,7 +339,7 @@ public final class IntruderSearch {
         return t;
     }
 
-    /** Finds the fewest steps from this position to the secret, and the least thread to begin them with. */
+    /** The least attack takes the fewest steps, and of these the least thread at each: later positions tell both. */
     private void measurePosition(int position) {
         stepsToGo[position] = NEVER;
         if (!readPosition(position)) {
@@ -362,7 +362,7 @@ public final class IntruderSearch {
         }
     }
 
-    /** Reads the threads' step counts off a position; answers false if a thread has fewer steps than that. */
+    /** False where the position cannot come up: a thread has fewer steps than its digit says. */
     private boolean readPosition(int position) {
         int rest = position;
         for (int thread = THREADS - 1; thread >= 0; thread--) {
@@ -404,7 +404,7 @@ public final class IntruderSearch {
 
     private boolean foundComesFirst() {
         int length = stepsToGo[0];
-        if (attackLength == NONE || length != attackLength) {
+        if (length != attackLength) {
             return attackLength == NONE || length < attackLength;
         }
         for (int i = 0; i < length; i++) {
@@ -472,7 +472,7 @@ public final class IntruderSearch {
         return derived;
     }
 
-    /** What one rule gives at a composite cell: its parts if it can be opened, itself if it can be built. */
+    /** What is held need not be built and what is not held cannot be opened, so only one of the two is tried. */
     private long derivedAt(int t, long derived) {
         long whole = 1L << twins[t];
         long first = 1L << twins[firsts[t]];
