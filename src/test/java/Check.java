@@ -6,14 +6,20 @@ final class Check {
     };
 
     private static int wrong = 0;
+    private static String sentence = "";
 
     private Check() {
+    }
+
+    /** Names the sentence of the document that the checks from here on are about. */
+    static void sentence(String text) {
+        sentence = text + "\n  ";
     }
 
     static void due(String what, long got, long want) {
         if (got != want) {
             wrong++;
-            System.out.println(what + " answered " + got + ", due is " + want);
+            System.out.println(sentence + what + " answered " + got + ", due is " + want);
         }
     }
 
@@ -24,7 +30,7 @@ final class Check {
     static void same(String what, String got, String want) {
         if (!got.equals(want)) {
             wrong++;
-            System.out.println(what + "\n  got " + got + "\n  due " + want);
+            System.out.println(sentence + what + "\n  got " + got + "\n  due " + want);
         }
     }
 
@@ -32,26 +38,29 @@ final class Check {
         return EDGES.clone();
     }
 
-    /** All that the getters tell, so that a test can see that a call changed nothing. */
+    /**
+     * All that the getters tell, so that a test can see that a call changed nothing: every argument that
+     * may have an answer, and those next to them.
+     */
     static String seen(IntruderSearch x) {
         StringBuilder text = new StringBuilder();
         text.append("cells");
-        for (int t = 0; t < IntruderSearch.MAX_CELLS; t++) {
-            for (int field = 0; field < 4; field++) {
+        for (int t = -1; t <= 64; t++) {
+            for (int field = -1; field <= 4; field++) {
                 text.append(' ').append(x.cell(t, field));
             }
         }
         text.append(" known");
-        for (int i = 0; i < IntruderSearch.MAX_KNOWN; i++) {
+        for (int i = -1; i <= 8; i++) {
             text.append(' ').append(x.known(i));
         }
         text.append(" derivable");
-        for (int t = 0; t < IntruderSearch.MAX_CELLS; t++) {
+        for (int t = -1; t <= 64; t++) {
             text.append(' ').append(x.derivable(t) ? 1 : 0);
         }
         text.append(" steps");
-        for (int thread = 0; thread < IntruderSearch.THREADS; thread++) {
-            for (int index = 0; index < IntruderSearch.MAX_STEPS; index++) {
+        for (int thread = -1; thread <= 3; thread++) {
+            for (int index = -1; index <= 6; index++) {
                 text.append(' ').append(x.step(thread, index));
             }
         }
@@ -63,14 +72,39 @@ final class Check {
     static String outcome(IntruderSearch x) {
         StringBuilder text = new StringBuilder();
         text.append("status ").append(x.status()).append(" length ").append(x.traceLength()).append(" threads");
-        for (int i = -1; i <= IntruderSearch.MAX_STEPS; i++) {
+        for (int i = -1; i <= 6; i++) {
             text.append(' ').append(x.traceThread(i));
         }
         text.append(" values");
-        for (int v = -1; v <= IntruderSearch.MAX_VARS; v++) {
+        for (int v = -1; v <= 3; v++) {
             text.append(' ').append(x.value(v));
         }
         return text.toString();
+    }
+
+    /**
+     * Searches and compares the length, the threads and the values of the trace, '-' standing for -1, or
+     * SAFE; an attack must replay.
+     */
+    static void searched(String what, IntruderSearch x, String want) {
+        int answer = x.search();
+        due(what + ": status beside search", x.status(), answer);
+        if (answer != 2) {
+            same(what, answer == 1 ? "SAFE" : "answer " + answer, want);
+            same(what + ": no trace", outcome(x), "status " + answer + " " + Scene.NO_OUTCOME);
+            return;
+        }
+        due(what + ": replay", Replay.holds(x), true);
+        StringBuilder got = new StringBuilder();
+        got.append(x.traceLength());
+        for (int i = 0; i < x.traceLength(); i++) {
+            got.append(' ').append(x.traceThread(i));
+        }
+        got.append(" |");
+        for (int v = 0; v < 3; v++) {
+            got.append(' ').append(x.value(v) == -1 ? "-" : "" + x.value(v));
+        }
+        same(what, got.toString(), want);
     }
 
     static void end() {

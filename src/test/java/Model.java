@@ -267,7 +267,7 @@ final class Model {
     }
 
     /** Takes apart whatever can be, trying to build each key from what there is so far. */
-    private static Set<Tree> open(Set<Tree> known) {
+    static Set<Tree> open(Set<Tree> known) {
         Set<Tree> parts = new HashSet<>(known);
         boolean grew = true;
         while (grew) {
@@ -285,7 +285,7 @@ final class Model {
         return parts;
     }
 
-    private static boolean builds(Set<Tree> parts, Tree goal) {
+    static boolean builds(Set<Tree> parts, Tree goal) {
         return parts.contains(goal)
             || goal.kind >= 3 && builds(parts, goal.left) && builds(parts, goal.right);
     }
