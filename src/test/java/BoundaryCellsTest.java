@@ -314,17 +314,12 @@ public final class BoundaryCellsTest {
 
     private static void atomLeavesTheRest() {
         Check.sentence("Promise 2: K0, the threads and the secret do not change");
-        IntruderSearch x = Scene.make(Scene.KNOWN + Scene.STEPS, 2);
-        String before = scenario(x);
-        x.atom(true);
-        Check.same("after atom(true)", scenario(x), before);
-    }
-
-    /** K0, the threads and the secret. */
-    private static String scenario(IntruderSearch x) {
-        String seen = Check.seen(x);
-        return seen.substring(seen.indexOf("known"), seen.indexOf("derivable"))
-            + seen.substring(seen.indexOf("steps"), seen.indexOf("status"));
+        for (int status = 0; status <= 2; status++) {
+            Scene.leaves("atom(true)", Scene.make(Scene.NOTHING, status), "6 to learn, 2 steps, 4 atoms",
+                Scene.OWN_CELLS, x -> x.atom(true), Check::known, Check::steps, x -> "" + x.secret());
+            Scene.leaves("atom(false)", Scene.make(Scene.KNOWN + Scene.STEPS, status), "0 to learn, 0 steps, 4 atoms",
+                Scene.OWN_CELLS, x -> x.atom(false), Check::known, Check::steps, x -> "" + x.secret());
+        }
     }
 
     private static void declaringAVariable() {
@@ -371,10 +366,12 @@ public final class BoundaryCellsTest {
 
     private static void variableLeavesTheRest() {
         Check.sentence("Promise 3: K0, the threads and the secret do not change");
-        IntruderSearch x = Scene.make(Scene.KNOWN + Scene.STEPS, 2);
-        String before = scenario(x);
-        x.variable(0);
-        Check.same("after variable(0)", scenario(x), before);
+        for (int status = 0; status <= 2; status++) {
+            Scene.leaves("variable(0)", Scene.make(Scene.NOTHING, status), "6 to learn, 2 steps, 5 atoms",
+                Scene.OWN_CELLS, x -> x.variable(0), Check::known, Check::steps, x -> "" + x.secret());
+            Scene.leaves("variable(2)", Scene.make(Scene.KNOWN + Scene.STEPS, status), "0 to learn, 0 steps, 5 atoms",
+                Scene.OWN_CELLS, x -> x.variable(2), Check::known, Check::steps, x -> "" + x.secret());
+        }
     }
 
     private static void composing() {
@@ -514,12 +511,13 @@ public final class BoundaryCellsTest {
         Check.sentence("Promise 4: compose never resets; status, trace, K0, threads and secret stay as they were");
         for (int status = 0; status <= 2; status++) {
             for (int op = 3; op <= 5; op++) {
-                IntruderSearch x = Scene.make(Scene.NOTHING, status);
-                String before = scenario(x) + Check.outcome(x);
-                Check.due("a new term", x.compose(op, 1, 1), Scene.OWN_CELLS);
-                Check.same("after a new term", scenario(x) + Check.outcome(x), before);
-                Check.due("a new term with a variable", x.compose(op, 2, 2), Scene.OWN_CELLS + 1);
-                Check.same("after a new term with a variable", scenario(x) + Check.outcome(x), before);
+                int kind = op;
+                Scene.leaves("a new term", Scene.make(Scene.NOTHING, status), "6 to learn, 2 steps, 5 atoms",
+                    Scene.OWN_CELLS, x -> x.compose(kind, 1, 1),
+                    Check::outcome, Check::known, Check::steps, x -> "" + x.secret());
+                Scene.leaves("a new term with a variable", Scene.make(Scene.STEPS, status),
+                    "6 to learn, 0 steps, 5 atoms", Scene.OWN_CELLS, x -> x.compose(kind, 2, 2),
+                    Check::outcome, Check::known, Check::steps, x -> "" + x.secret());
             }
         }
     }

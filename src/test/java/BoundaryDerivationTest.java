@@ -108,6 +108,11 @@ public final class BoundaryDerivationTest {
         Check.due("the ground one", x.derivable(ground), true);
         Check.due("its content", x.derivable(2), false);
         Check.due("the other part", x.derivable(0), true);
+        // Composing does not reset, so that these cells are younger than the attack that is held.
+        Check.due("built after the attack", x.derivable(x.compose(3, 0, ground)), true);
+        Check.due("not to be built after the attack", x.derivable(x.compose(3, 0, 1)), false);
+        Check.due("with a variable after the attack", x.derivable(x.compose(3, 0, v)), false);
+        Check.due("the attack is still held", x.status(), 2);
     }
 
     private static void whatIsKnown() {

@@ -64,25 +64,12 @@ public final class BoundaryScenarioTest {
 
     private static void learnLeavesTheRest() {
         Check.sentence("Promise 6: the cells, the threads and the secret do not change");
-        IntruderSearch x = Scene.make(Scene.CELLS + Scene.STEPS, 2);
-        String before = cells(x) + steps(x) + x.secret();
-        x.learn(0);
-        Check.same("after learn(0)", cells(x) + steps(x) + x.secret(), before);
-    }
-
-    private static String cells(IntruderSearch x) {
-        String seen = Check.seen(x);
-        return seen.substring(0, seen.indexOf("known"));
-    }
-
-    private static String known(IntruderSearch x) {
-        String seen = Check.seen(x);
-        return seen.substring(seen.indexOf("known"), seen.indexOf("derivable"));
-    }
-
-    private static String steps(IntruderSearch x) {
-        String seen = Check.seen(x);
-        return seen.substring(seen.indexOf("steps"), seen.indexOf("secret"));
+        Scene.leaves("the first learn", Scene.cellsOnly(), "7 to learn, 6 steps, 5 atoms", 1,
+            x -> Scene.number(x.learn(0)), Check::cells, Check::steps, x -> "" + x.secret());
+        for (int status = 0; status <= 2; status++) {
+            Scene.leaves("learn", Scene.make(Scene.NOTHING, status), "5 to learn, 2 steps, 5 atoms", 1,
+                x -> Scene.number(x.learn(0)), Check::cells, Check::steps, x -> "" + x.secret());
+        }
     }
 
     private static void readingK0() {
@@ -183,18 +170,19 @@ public final class BoundaryScenarioTest {
 
     private static void stepLeavesTheRest() {
         Check.sentence("Promise 9: the other threads, the cells, K0 and the secret do not change");
+        String[] threads = {" steps 0 1 -1 -1 -1 -1 7 8 -1 -1 -1 -1 4 -1 -1 -1 -1 -1",
+            " steps 0 -1 -1 -1 -1 -1 7 8 1 -1 -1 -1 4 -1 -1 -1 -1 -1",
+            " steps 0 -1 -1 -1 -1 -1 7 8 -1 -1 -1 -1 4 1 -1 -1 -1 -1"};
         for (int thread = 0; thread < 3; thread++) {
-            IntruderSearch x = Scene.make(Scene.CELLS + Scene.KNOWN, 2);
-            String before = cells(x) + known(x) + x.secret();
-            int[] counts = {0, 2, 1};
-            int[][] due = {{-1, -1, -1}, {7, 8, -1}, {4, -1, -1}};
-            due[thread][counts[thread]] = 1;
-            Check.due("addStep", x.addStep(thread, true, 0), true);
-            Check.same("after addStep", cells(x) + known(x) + x.secret(), before);
-            for (int other = 0; other < 3; other++) {
-                for (int index = 0; index < 3; index++) {
-                    Check.due("step(" + other + ", " + index + ")", x.step(other, index), due[other][index]);
-                }
+            int asked = thread;
+            Scene.leaves("the first addStep", Scene.cellsOnly(), "8 to learn, 5 steps, 5 atoms", 1,
+                x -> Scene.number(x.addStep(asked, true, 0)), Check::cells, Check::known, x -> "" + x.secret());
+            for (int status = 0; status <= 2; status++) {
+                Scene.leaves("addStep", Scene.make(Scene.NOTHING, status), "6 to learn, 1 steps, 5 atoms", 1,
+                    x -> Scene.number(x.addStep(asked, true, 0)), Check::cells, Check::known, x -> "" + x.secret());
+                IntruderSearch x = Scene.make(Scene.NOTHING, status);
+                x.addStep(thread, true, 0);
+                Check.same("after a step in " + thread, Check.steps(x), threads[thread]);
             }
         }
     }
@@ -218,7 +206,11 @@ public final class BoundaryScenarioTest {
             int next = counts[thread];
             Scene.refused("step(" + thread + ", " + next + ")", Scene.STEPS, -1, x -> x.step(asked, next));
         }
-        Scene.refused("step(0, 0) of an empty thread", Scene.NOTHING, -1, x -> x.step(0, 0));
+        for (int thread = 0; thread < 3; thread++) {
+            int asked = thread;
+            Scene.refusedBy("step(" + thread + ", 0) of an empty thread", Scene.cellsOnly(), Scene.cellsOnly(), -1,
+                x -> x.step(asked, 0));
+        }
         Check.sentence("Promise 10: it changes nothing");
         Scene.refused("step(1, 0)", Scene.NOTHING, 2 * Scene.SENT + 1, x -> x.step(1, 0));
         Scene.refused("step(1, 1)", Scene.NOTHING, 2 * Scene.WITH_VARIABLE, x -> x.step(1, 1));
@@ -259,10 +251,12 @@ public final class BoundaryScenarioTest {
         Scene.resets("a term with a variable", 1, x -> Scene.number(x.setSecret(Scene.WITH_VARIABLE)));
         readingTheSecret();
         Check.sentence("Promise 11: the cells, K0 and the threads do not change");
-        IntruderSearch x = Scene.make(Scene.ALL, 2);
-        String before = cells(x) + known(x) + steps(x);
-        x.setSecret(63);
-        Check.same("after setSecret", cells(x) + known(x) + steps(x), before);
+        Scene.leaves("the first setSecret", Scene.cellsOnly(), "8 to learn, 6 steps, 5 atoms", 1,
+            x -> Scene.number(x.setSecret(0)), Check::cells, Check::known, Check::steps);
+        for (int status = 0; status <= 2; status++) {
+            Scene.leaves("setSecret", Scene.make(Scene.NOTHING, status), "6 to learn, 2 steps, 5 atoms", 1,
+                x -> Scene.number(x.setSecret(0)), Check::cells, Check::known, Check::steps);
+        }
     }
 
     private static void readingTheSecret() {

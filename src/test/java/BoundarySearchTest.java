@@ -387,17 +387,15 @@ public final class BoundarySearchTest {
 
     private static void searchLeavesTheRest() {
         Check.sentence("Promise 12: the cells, K0, the threads and the secret do not change");
-        int[] scenes = {Scene.NOTHING, Scene.CELLS, Scene.ALL};
-        for (int full : scenes) {
-            for (int secret = 0; secret < Scene.OWN_CELLS; secret++) {
-                IntruderSearch x = Scene.withoutSecret(full);
-                x.setSecret(secret);
-                String before = Check.seen(x);
-                x.search();
-                String after = Check.seen(x);
-                Check.same("after search()", after.substring(0, after.indexOf("status")),
-                    before.substring(0, before.indexOf("status")));
-            }
+        for (int secret = 0; secret < Scene.OWN_CELLS; secret++) {
+            IntruderSearch y = Scene.cellsOnly();
+            y.setSecret(secret);
+            Scene.leaves("search with nothing known", y, "8 to learn, 6 steps, 5 atoms", 1, IntruderSearch::search,
+                Check::cells, Check::known, Check::steps, x -> "" + x.secret());
+            IntruderSearch z = Scene.withoutSecret(Scene.NOTHING);
+            z.setSecret(secret);
+            Scene.leaves("search", z, "6 to learn, 2 steps, 5 atoms", secret == Scene.HIDDEN ? 1 : 2,
+                IntruderSearch::search, Check::cells, Check::known, Check::steps, x -> "" + x.secret());
         }
     }
 

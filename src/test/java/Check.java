@@ -39,33 +39,60 @@ final class Check {
     }
 
     /**
-     * All that the getters tell, so that a test can see that a call changed nothing: every argument that
-     * may have an answer, and those next to them.
+     * All that the getters tell, so that a test can see that a call changed nothing. The wrong arguments
+     * come last: if one of them changed anything, it would show the next time.
      */
     static String seen(IntruderSearch x) {
         StringBuilder text = new StringBuilder();
-        text.append("cells");
-        for (int t = -1; t <= 64; t++) {
-            for (int field = -1; field <= 4; field++) {
+        text.append(cells(x)).append(known(x)).append(" derivable");
+        for (int t = 0; t < 64; t++) {
+            text.append(' ').append(x.derivable(t) ? 1 : 0);
+        }
+        text.append(steps(x)).append(" secret ").append(x.secret());
+        return text.append(' ').append(outcome(x)).append(outside(x)).toString();
+    }
+
+    static String cells(IntruderSearch x) {
+        StringBuilder text = new StringBuilder("cells");
+        for (int t = 0; t < 64; t++) {
+            for (int field = 0; field < 4; field++) {
                 text.append(' ').append(x.cell(t, field));
             }
         }
-        text.append(" known");
-        for (int i = -1; i <= 8; i++) {
+        return text.toString();
+    }
+
+    static String known(IntruderSearch x) {
+        StringBuilder text = new StringBuilder(" known");
+        for (int i = 0; i < 8; i++) {
             text.append(' ').append(x.known(i));
         }
-        text.append(" derivable");
-        for (int t = -1; t <= 64; t++) {
-            text.append(' ').append(x.derivable(t) ? 1 : 0);
-        }
-        text.append(" steps");
-        for (int thread = -1; thread <= 3; thread++) {
-            for (int index = -1; index <= 6; index++) {
+        return text.toString();
+    }
+
+    static String steps(IntruderSearch x) {
+        StringBuilder text = new StringBuilder(" steps");
+        for (int thread = 0; thread < 3; thread++) {
+            for (int index = 0; index < 6; index++) {
                 text.append(' ').append(x.step(thread, index));
             }
         }
-        text.append(" secret ").append(x.secret());
-        return text.append(' ').append(outcome(x)).toString();
+        return text.toString();
+    }
+
+    /** What the getters answer next to the arguments that may have an answer. */
+    private static String outside(IntruderSearch x) {
+        StringBuilder text = new StringBuilder(" outside");
+        for (int t = -1; t <= 64; t++) {
+            text.append(' ').append(x.cell(t, -1)).append(' ').append(x.cell(t, 4));
+        }
+        for (int i = -1; i <= 6; i++) {
+            text.append(' ').append(x.step(-1, i)).append(' ').append(x.step(3, i));
+            text.append(' ').append(x.step(i, -1)).append(' ').append(x.step(i, 6));
+        }
+        text.append(' ').append(x.cell(-1, 0)).append(' ').append(x.cell(64, 0));
+        text.append(' ').append(x.known(-1)).append(' ').append(x.known(8));
+        return text.append(' ').append(x.derivable(-1)).append(' ').append(x.derivable(64)).toString();
     }
 
     /** The part of what is seen that a reset takes away. */

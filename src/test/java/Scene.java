@@ -29,6 +29,11 @@ final class Scene {
         long on(IntruderSearch x);
     }
 
+    /** What some of the getters tell. */
+    interface Part {
+        String of(IntruderSearch x);
+    }
+
     private Scene() {
     }
 
@@ -66,8 +71,8 @@ final class Scene {
         Check.due("cells after filling", cellsOf(x), cells);
     }
 
-    /** A scene without secret. The hidden atom can never be derived; the sent one once thread 1 has sent it. */
-    static IntruderSearch withoutSecret(int full) {
+    /** The cells of every scene, without anything learned, any step or any secret. */
+    static IntruderSearch cellsOnly() {
         IntruderSearch x = new IntruderSearch();
         x.atom(false);
         x.atom(true);
@@ -79,14 +84,20 @@ final class Scene {
         x.compose(3, 6, 6);
         x.compose(3, 7, 7);
         x.compose(3, SIZE_15, SIZE_15);
-        Check.due("cells of the scene", cellsOf(x), OWN_CELLS);
-        Check.due("greatest size of the scene", x.cell(SIZE_31, 3), 31);
+        return x;
+    }
+
+    /** A scene without secret. The hidden atom can never be derived; the sent one once thread 1 has sent it. */
+    static IntruderSearch withoutSecret(int full) {
+        IntruderSearch x = cellsOnly();
         x.learn(SPY);
         x.learn(LOCKED);
         x.addStep(1, true, SENT);
         x.addStep(1, false, WITH_VARIABLE);
         x.addStep(2, false, VARIABLE);
+        x.addStep(0, false, HIDDEN);
         fillUp(x, full);
+        looksRight(x, full);
         return x;
     }
 
@@ -97,12 +108,30 @@ final class Scene {
         for (int i = 2; (full & KNOWN) != 0 && i < 8; i++) {
             Check.due("known " + i + " of the scene", x.learn(SPY), true);
         }
-        for (int i = 3; (full & STEPS) != 0 && i < 6; i++) {
+        for (int i = 4; (full & STEPS) != 0 && i < 6; i++) {
             Check.due("step " + i + " of the scene", x.addStep(0, false, HIDDEN), true);
         }
         if ((full & CELLS) != 0) {
             fill(x, 64);
         }
+    }
+
+    /** The scene was made by accepted calls; this sees to it that none of them did more than it should. */
+    private static void looksRight(IntruderSearch x, int full) {
+        int[][] cells = {{1, 0, 0, 1}, {1, 1, 1, 1}, {2, 1, 0, 1}, {1, 2, 0, 1}, {3, 3, 2, 3},
+            {4, 3, 0, 3}, {3, 3, 3, 3}, {3, 6, 6, 7}, {3, 7, 7, 15}, {3, 8, 8, 31}};
+        for (int t = 0; t < OWN_CELLS; t++) {
+            for (int field = 0; field < 4; field++) {
+                Check.due("scene's cell(" + t + ", " + field + ")", x.cell(t, field), cells[t][field]);
+            }
+        }
+        int count = (full & CELLS) != 0 ? 64 : (full & ATOMS) != 0 ? OWN_CELLS + 5 : OWN_CELLS;
+        Check.due("scene's cells", cellsOf(x), count);
+        Check.same("scene's K0", Check.known(x),
+            (full & KNOWN) != 0 ? " known 1 5 1 1 1 1 1 1" : " known 1 5 -1 -1 -1 -1 -1 -1");
+        Check.same("scene's steps", Check.steps(x),
+            ((full & STEPS) != 0 ? " steps 0 0 0 -1 -1 -1" : " steps 0 -1 -1 -1 -1 -1")
+            + " 7 8 -1 -1 -1 -1 4 -1 -1 -1 -1 -1");
     }
 
     /** A scene with that status; the attack is one step of thread 1, and gives the spy to variable 1. */
@@ -114,6 +143,7 @@ final class Scene {
         }
         Check.same("outcome of the scene", Check.outcome(x), status != 2 ? "status " + status + " " + NO_OUTCOME
             : "status 2 length 1 threads -1 1 -1 -1 -1 -1 -1 -1 values -1 -1 1 -1 -1");
+        looksRight(x, full);
         return x;
     }
 
@@ -134,7 +164,7 @@ final class Scene {
         Check.same(what + ": what later calls answer", course(x), course(spared));
     }
 
-    /** In each status: the call answers true or an id, and then the status is NOT_SEARCHED and there is no trace. */
+    /** In each status: the call answers as due, and then the status is NOT_SEARCHED and there is no trace. */
     static void resets(String what, long due, Call call) {
         for (int status = 0; status <= 2; status++) {
             IntruderSearch x = make(NOTHING, status);
@@ -143,17 +173,62 @@ final class Scene {
         }
     }
 
-    /** A run of all kinds of calls that make or change something, as far as there is room, with all answers. */
+    /** The call is accepted and leaves these parts as they were; the room that is left is as said. */
+    static void leaves(String what, IntruderSearch x, String room, long due, Call call, Part... parts) {
+        String[] before = new String[parts.length];
+        for (int i = 0; i < parts.length; i++) {
+            before[i] = parts[i].of(x);
+        }
+        Check.due(what, call.on(x), due);
+        for (int i = 0; i < parts.length; i++) {
+            Check.same(what + ": a part that it leaves", parts[i].of(x), before[i]);
+        }
+        Check.same(what + ": room after it", room(x), room);
+    }
+
+    /**
+     * All kinds of calls that make or change something, until they are refused, with all answers: what a
+     * getter does not tell, such as how much more there is room for, shows here.
+     */
     private static String course(IntruderSearch x) {
         StringBuilder text = new StringBuilder();
-        text.append(x.search()).append(' ');
-        text.append(x.compose(5, 0, 0)).append(' ').append(x.atom(true)).append(' ');
-        for (int v = 0; v < 3; v++) {
-            text.append(x.variable(v)).append(' ').append(x.addStep(v, true, v)).append(' ');
+        if (x.secret() != -1) {
+            text.append(x.search()).append(Check.outcome(x));
         }
-        text.append(x.learn(0)).append(' ').append(x.setSecret(x.compose(3, 0, 1))).append(' ');
-        text.append(x.search()).append(' ').append(Check.seen(x)).append(' ');
-        text.append(x.setSecret(Math.max(0, cellsOf(x) - 1))).append(' ');
-        return text.append(x.search()).append(' ').append(Check.seen(x)).toString();
+        for (int t = 0; t < OWN_CELLS; t++) {
+            text.append(x.learn(t) ? '+' : '-');
+        }
+        for (int i = 0; i < 7; i++) {
+            text.append(x.addStep(i % 3, i % 2 == 0, i) ? '+' : '-');
+        }
+        text.append(x.compose(5, 0, 0)).append(x.setSecret(x.compose(3, 0, 1)));
+        text.append(x.search()).append(Check.seen(x));
+        for (int i = 0; i < 9; i++) {
+            text.append(' ').append(x.atom(i % 2 == 0));
+        }
+        for (int v = 0; v < 3; v++) {
+            text.append(' ').append(x.variable(v));
+        }
+        for (int code = 0; code < 108; code++) {
+            text.append(' ').append(x.compose(3 + code % 3, code / 3 % 6, code / 18));
+        }
+        return text.append(Check.seen(x)).toString();
+    }
+
+    /** How much more there is room for; it is used up by this. */
+    private static String room(IntruderSearch x) {
+        int known = 0;
+        while (known < 9 && x.learn(HIDDEN)) {
+            known++;
+        }
+        int steps = 0;
+        while (steps < 7 && x.addStep(steps % 3, true, HIDDEN)) {
+            steps++;
+        }
+        int atoms = 0;
+        while (atoms < 9 && x.atom(false) != -1) {
+            atoms++;
+        }
+        return known + " to learn, " + steps + " steps, " + atoms + " atoms";
     }
 }
