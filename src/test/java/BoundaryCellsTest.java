@@ -10,6 +10,7 @@ public final class BoundaryCellsTest {
         declaringAVariable();
         composing();
         readingACell();
+        fullTableWithoutAtom();
         Check.end();
     }
 
@@ -327,13 +328,15 @@ public final class BoundaryCellsTest {
         int[] wrong = {Integer.MIN_VALUE, -2, -1, 3, 4, 64, Integer.MAX_VALUE};
         for (int v : wrong) {
             Scene.refused("variable(" + v + ")", Scene.NOTHING, -1, x -> x.variable(v));
-            Scene.refused("variable(" + v + ") in a full table", Scene.CELLS, -1, x -> x.variable(v));
+            Scene.refused("variable(" + v + ") in a full table", Scene.CELLS + Scene.VARIABLES, -1, x -> x.variable(v));
         }
         Check.sentence("Promise 3, 2: the VAR cell of v exists: its id, nothing changes, status and trace are kept");
         Scene.refused("variable(1) again", Scene.NOTHING, Scene.VARIABLE, x -> x.variable(1));
         Check.sentence("Promise 3, 2 before 3: the VAR cell of v exists in a full table");
         Scene.refused("variable(1) again in a full table", Scene.CELLS, Scene.VARIABLE, x -> x.variable(1));
         Scene.refused("variable(1) again, all is full", Scene.ALL, Scene.VARIABLE, x -> x.variable(1));
+        Scene.refused("variable(0) again", Scene.CELLS + Scene.VARIABLES, Scene.OWN_CELLS, x -> x.variable(0));
+        Scene.refused("variable(2) again", Scene.CELLS + Scene.VARIABLES, Scene.OWN_CELLS + 1, x -> x.variable(2));
         Check.sentence("Promise 3, 3: MAX_CELLS cells exist: -1");
         Scene.refused("variable(0) in a full table", Scene.CELLS, -1, x -> x.variable(0));
         Scene.refused("variable(2) in a full table", Scene.CELLS, -1, x -> x.variable(2));
@@ -389,7 +392,7 @@ public final class BoundaryCellsTest {
         int[] wrong = {Integer.MIN_VALUE, -3, -1, 0, 1, 2, 6, 7, 8, 9, 1 << 16, Integer.MAX_VALUE};
         for (int op : wrong) {
             Scene.refused("compose(" + op + ", 0, 1)", Scene.NOTHING, -1, x -> x.compose(op, 0, 1));
-            Scene.refused("compose(" + op + ", -1, 64)", Scene.CELLS, -1, x -> x.compose(op, -1, 64));
+            Scene.refused("compose(" + op + ", -1, 64)", Scene.CELLS + Scene.VARIABLES, -1, x -> x.compose(op, -1, 64));
         }
         Check.sentence("Promise 4, 1 before 4: op is none of the three, and a cell of kind op with a and b exists");
         Scene.refused("compose(1, 0, 0) beside atom 0", Scene.NOTHING, -1, x -> x.compose(1, 0, 0));
@@ -405,7 +408,7 @@ public final class BoundaryCellsTest {
                 int kind = op;
                 Scene.refused("a is " + t, Scene.NOTHING, -1, x -> x.compose(kind, t, 0));
                 Scene.refused("b is " + t, Scene.NOTHING, -1, x -> x.compose(kind, 0, t));
-                Scene.refused("both are " + t, Scene.CELLS, -1, x -> x.compose(kind, t, t));
+                Scene.refused("both are " + t, Scene.CELLS + Scene.VARIABLES, -1, x -> x.compose(kind, t, t));
             }
         }
         int next = Scene.OWN_CELLS;
@@ -421,7 +424,8 @@ public final class BoundaryCellsTest {
             int kind = op;
             for (int t : small) {
                 Scene.refused("31 and cell " + t, Scene.NOTHING, -1, x -> x.compose(kind, Scene.SIZE_31, t));
-                Scene.refused("cell " + t + " and 31", Scene.CELLS, -1, x -> x.compose(kind, t, Scene.SIZE_31));
+                Scene.refused("cell " + t + " and 31", Scene.CELLS + Scene.VARIABLES, -1,
+                    x -> x.compose(kind, t, Scene.SIZE_31));
             }
         }
         for (int left = 1; left <= 31; left += 2) {
@@ -454,7 +458,7 @@ public final class BoundaryCellsTest {
         Scene.refused("the largest again", Scene.NOTHING, Scene.SIZE_31,
             x -> x.compose(3, Scene.SIZE_15, Scene.SIZE_15));
         Check.sentence("Promise 4, 4 before 5: the cell exists in a full table");
-        Scene.refused("a pair again in a full table", Scene.CELLS, Scene.WITH_VARIABLE,
+        Scene.refused("a pair again in a full table", Scene.CELLS + Scene.VARIABLES, Scene.WITH_VARIABLE,
             x -> x.compose(3, Scene.SENT, Scene.VARIABLE));
         Scene.refused("the largest again, all is full", Scene.ALL, Scene.SIZE_31,
             x -> x.compose(3, Scene.SIZE_15, Scene.SIZE_15));
@@ -539,6 +543,25 @@ public final class BoundaryCellsTest {
                 Check.due("cell(" + t + ", " + field + ")", x.cell(t, field), due[t][field]);
             }
         }
+    }
+
+    /** A cell that was refused must not count as an atom: with no atom there is no assignment. */
+    private static void fullTableWithoutAtom() {
+        Check.sentence("Promises 2, 3 and 4: MAX_CELLS cells exist, and none of them is an atom");
+        Scene.refusedBy("atom(true)", noAtom(), noAtom(), -1, x -> x.atom(true));
+        Scene.refusedBy("atom(false)", noAtom(), noAtom(), -1, x -> x.atom(false));
+        Scene.refusedBy("variable(1)", noAtom(), noAtom(), -1, x -> x.variable(1));
+        Scene.refusedBy("compose(3, 63, 0)", noAtom(), noAtom(), -1, x -> x.compose(3, 63, 0));
+    }
+
+    private static IntruderSearch noAtom() {
+        IntruderSearch x = new IntruderSearch();
+        x.variable(0);
+        Scene.fill(x, 64);
+        x.addStep(0, true, 0);
+        x.setSecret(0);
+        Check.due("search without an atom", x.search(), 1);
+        return x;
     }
 
     private static void wrongReads() {

@@ -73,6 +73,7 @@ public final class BoundaryDerivationTest {
         Check.sentence("Promise 8: it changes nothing");
         Scene.refused("derivable, true", Scene.NOTHING, 1, x -> Scene.number(x.derivable(Scene.LOCKED)));
         Scene.refused("derivable, false", Scene.NOTHING, 0, x -> Scene.number(x.derivable(Scene.HIDDEN)));
+        Scene.refused("derivable, all is full", Scene.ALL, 1, x -> Scene.number(x.derivable(Scene.LOCKED)));
         Scene.refused("derivable, a variable", Scene.NOTHING, 0, x -> Scene.number(x.derivable(Scene.VARIABLE)));
     }
 

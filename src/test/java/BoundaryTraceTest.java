@@ -26,7 +26,7 @@ public final class BoundaryTraceTest {
     private static void whatDoesNotReset() {
         Check.sentence("Status and reset: refused calls change nothing");
         Scene.refused("atom", Scene.ALL, -1, x -> x.atom(false));
-        Scene.refused("variable", Scene.ALL, -1, x -> x.variable(0));
+        Scene.refused("variable", Scene.ALL - Scene.VARIABLES, -1, x -> x.variable(0));
         Scene.refused("compose", Scene.ALL, -1, x -> x.compose(3, 63, 0));
         Scene.refused("learn", Scene.ALL, 0, x -> Scene.number(x.learn(Scene.SPY)));
         Scene.refused("addStep", Scene.ALL, 0, x -> Scene.number(x.addStep(1, true, Scene.SPY)));

@@ -9,7 +9,8 @@ final class Scene {
     static final int CELLS = 2;
     static final int KNOWN = 4;
     static final int STEPS = 8;
-    static final int ALL = 15;
+    static final int VARIABLES = 16;
+    static final int ALL = 31;
 
     /** The cells that every scene has. */
     static final int HIDDEN = 0;
@@ -111,6 +112,10 @@ final class Scene {
         for (int i = 4; (full & STEPS) != 0 && i < 6; i++) {
             Check.due("step " + i + " of the scene", x.addStep(0, false, HIDDEN), true);
         }
+        if ((full & VARIABLES) != 0) {
+            Check.due("variable 0 of the scene", x.variable(0) >= OWN_CELLS, true);
+            Check.due("variable 2 of the scene", x.variable(2) >= OWN_CELLS, true);
+        }
         if ((full & CELLS) != 0) {
             fill(x, 64);
         }
@@ -125,8 +130,8 @@ final class Scene {
                 Check.due("scene's cell(" + t + ", " + field + ")", x.cell(t, field), cells[t][field]);
             }
         }
-        int count = (full & CELLS) != 0 ? 64 : (full & ATOMS) != 0 ? OWN_CELLS + 5 : OWN_CELLS;
-        Check.due("scene's cells", cellsOf(x), count);
+        int more = ((full & ATOMS) != 0 ? 5 : 0) + ((full & VARIABLES) != 0 ? 2 : 0);
+        Check.due("scene's cells", cellsOf(x), (full & CELLS) != 0 ? 64 : OWN_CELLS + more);
         Check.same("scene's K0", Check.known(x),
             (full & KNOWN) != 0 ? " known 1 5 1 1 1 1 1 1" : " known 1 5 -1 -1 -1 -1 -1 -1");
         Check.same("scene's steps", Check.steps(x),
@@ -134,15 +139,19 @@ final class Scene {
             + " 7 8 -1 -1 -1 -1 4 -1 -1 -1 -1 -1");
     }
 
-    /** A scene with that status; the attack is one step of thread 1, and gives the spy to variable 1. */
+    /**
+     * A scene with that status; the attack is one step of thread 1, and gives the spy to variable 1 and
+     * the first atom to the others.
+     */
     static IntruderSearch make(int full, int status) {
         IntruderSearch x = withoutSecret(full);
         x.setSecret(status == 1 ? HIDDEN : WITH_VARIABLE);
         if (status != 0) {
             Check.due("search of the scene", x.search(), status);
         }
+        String values = (full & VARIABLES) != 0 ? "-1 0 1 0 -1" : "-1 -1 1 -1 -1";
         Check.same("outcome of the scene", Check.outcome(x), status != 2 ? "status " + status + " " + NO_OUTCOME
-            : "status 2 length 1 threads -1 1 -1 -1 -1 -1 -1 -1 values -1 -1 1 -1 -1");
+            : "status 2 length 1 threads -1 1 -1 -1 -1 -1 -1 -1 values " + values);
         looksRight(x, full);
         return x;
     }
