@@ -211,7 +211,8 @@ final class Scene {
             text.append(x.addStep(i % 3, i % 2 == 0, i) ? '+' : '-');
         }
         text.append(x.compose(5, 0, 0)).append(x.setSecret(x.compose(3, 0, 1)));
-        text.append(x.search()).append(Check.seen(x));
+        // The getters come last: if one of them is at fault, the spared object must not meet it earlier.
+        text.append(x.search()).append(Check.outcome(x));
         for (int i = 0; i < 9; i++) {
             text.append(' ').append(x.atom(i % 2 == 0));
         }
