@@ -20,9 +20,11 @@ public final class BoundaryCellsTest {
         cellsNeverChange();
         atomNumbersAreNotIds();
         oneCellForEachVariable();
+        declaredWithItsCell();
         keysMayBeAnyTerm();
         sizesAddUp();
         noTwoEqualComposites();
+        distinctCellsAreDistinctTrees();
         groundMeansNoVariable();
     }
 
@@ -127,6 +129,24 @@ public final class BoundaryCellsTest {
         Check.due("variable(-1)", x.variable(-1), -1);
     }
 
+    private static void declaredWithItsCell() {
+        Check.sentence("Terms: a variable is declared iff its cell exists");
+        for (int declared = 0; declared < 8; declared++) {
+            IntruderSearch x = Scene.atoms(1);
+            x.learn(0);
+            for (int v = 0; v < 3; v++) {
+                if ((declared >> v & 1) != 0) {
+                    x.variable(v);
+                }
+            }
+            x.setSecret(0);
+            Check.due("search", x.search(), 2);
+            for (int v = 0; v < 3; v++) {
+                Check.due("value(" + v + ") of " + declared, x.value(v), (declared >> v & 1) != 0 ? 0 : -1);
+            }
+        }
+    }
+
     private static void keysMayBeAnyTerm() {
         Check.sentence("Terms: SENC(m,k) and AENC(m,a), where k and a may be any term");
         for (int op = 4; op <= 5; op++) {
@@ -181,6 +201,29 @@ public final class BoundaryCellsTest {
         Check.due("cells made in two rounds", Scene.cellsOf(x), next);
     }
 
+    private static void distinctCellsAreDistinctTrees() {
+        Check.sentence("Terms: distinct cells denote distinct trees");
+        IntruderSearch x = Scene.atoms(1);
+        x.variable(1);
+        for (int round = 0; round < 2; round++) {
+            for (int code = 0; code < 48; code++) {
+                x.compose(3 + code % 3, code / 3 % 4, code / 12);
+            }
+        }
+        int count = Scene.cellsOf(x);
+        Check.due("cells after two rounds", count, 50);
+        // The parts of a cell are older than it, so that they are unfolded before it.
+        String[] trees = new String[count];
+        for (int t = 0; t < count; t++) {
+            boolean leaf = x.cell(t, 0) < 3;
+            trees[t] = x.cell(t, 0) + (leaf ? "." + x.cell(t, 1)
+                : "(" + trees[x.cell(t, 1)] + "," + trees[x.cell(t, 2)] + ")");
+            for (int u = 0; u < t; u++) {
+                Check.due("cells " + u + " and " + t + " are equal", trees[u].equals(trees[t]), false);
+            }
+        }
+    }
+
     private static void groundMeansNoVariable() {
         Check.sentence("Terms: a term is ground iff no VAR cell occurs in it");
         for (int op = 3; op <= 5; op++) {
@@ -223,11 +266,18 @@ public final class BoundaryCellsTest {
         }
         Check.sentence("Promise 1: all threads empty (n_0 = n_1 = n_2 = 0)");
         for (int i = 0; i < 6; i++) {
+            Check.due("step(" + i % 3 + ", " + i / 3 + ") before", x.step(i % 3, i / 3), -1);
             Check.due("room for step " + i, x.addStep(i % 3, true, 0), true);
+            Check.due("step(" + i % 3 + ", " + i / 3 + ") after", x.step(i % 3, i / 3), 1);
         }
+        Check.sentence("Promise 1: no secret");
+        Check.due("secret() of a new object", new IntruderSearch().secret(), -1);
+        Check.due("search() with all but a secret", x.search(), 3);
+        Check.sentence("Promise 1: status NOT_SEARCHED and no trace");
+        Check.same("outcome of a new object", Check.outcome(new IntruderSearch()), "status 0 " + Scene.NO_OUTCOME);
         emptyGetters();
         Check.sentence("Promise 1: search() answers NO_SECRET");
-        Scene.refusedBy("search()", new IntruderSearch(), new IntruderSearch(), 3, IntruderSearch::search);
+        Scene.refusedBy("search()", IntruderSearch::new, 3, IntruderSearch::search);
         emptyObjectRefuses();
     }
 
@@ -262,7 +312,7 @@ public final class BoundaryCellsTest {
     }
 
     private static void emptyRefuses(String what, long due, Scene.Call call) {
-        Scene.refusedBy(what, new IntruderSearch(), new IntruderSearch(), due, call);
+        Scene.refusedBy(what, IntruderSearch::new, due, call);
     }
 
     private static void makingAnAtom() {
@@ -329,6 +379,7 @@ public final class BoundaryCellsTest {
         for (int v : wrong) {
             Scene.refused("variable(" + v + ")", Scene.NOTHING, -1, x -> x.variable(v));
             Scene.refused("variable(" + v + ") in a full table", Scene.CELLS + Scene.VARIABLES, -1, x -> x.variable(v));
+            Scene.refused("variable(" + v + "), K0 full", Scene.KNOWN + Scene.STEPS, -1, x -> x.variable(v));
         }
         Check.sentence("Promise 3, 2: the VAR cell of v exists: its id, nothing changes, status and trace are kept");
         Scene.refused("variable(1) again", Scene.NOTHING, Scene.VARIABLE, x -> x.variable(1));
@@ -392,6 +443,8 @@ public final class BoundaryCellsTest {
         int[] wrong = {Integer.MIN_VALUE, -3, -1, 0, 1, 2, 6, 7, 8, 9, 1 << 16, Integer.MAX_VALUE};
         for (int op : wrong) {
             Scene.refused("compose(" + op + ", 0, 1)", Scene.NOTHING, -1, x -> x.compose(op, 0, 1));
+            Scene.refused("compose(" + op + ", 0, 1), K0 full", Scene.KNOWN + Scene.STEPS, -1,
+                x -> x.compose(op, 0, 1));
             Scene.refused("compose(" + op + ", -1, 64)", Scene.CELLS + Scene.VARIABLES, -1, x -> x.compose(op, -1, 64));
         }
         Check.sentence("Promise 4, 1 before 4: op is none of the three, and a cell of kind op with a and b exists");
@@ -408,6 +461,7 @@ public final class BoundaryCellsTest {
                 int kind = op;
                 Scene.refused("a is " + t, Scene.NOTHING, -1, x -> x.compose(kind, t, 0));
                 Scene.refused("b is " + t, Scene.NOTHING, -1, x -> x.compose(kind, 0, t));
+                Scene.refused("b is " + t + ", K0 full", Scene.KNOWN + Scene.STEPS, -1, x -> x.compose(kind, 0, t));
                 Scene.refused("both are " + t, Scene.CELLS + Scene.VARIABLES, -1, x -> x.compose(kind, t, t));
             }
         }
@@ -424,6 +478,8 @@ public final class BoundaryCellsTest {
             int kind = op;
             for (int t : small) {
                 Scene.refused("31 and cell " + t, Scene.NOTHING, -1, x -> x.compose(kind, Scene.SIZE_31, t));
+                Scene.refused("31 and cell " + t + ", K0 full", Scene.KNOWN + Scene.STEPS, -1,
+                    x -> x.compose(kind, Scene.SIZE_31, t));
                 Scene.refused("cell " + t + " and 31", Scene.CELLS + Scene.VARIABLES, -1,
                     x -> x.compose(kind, t, Scene.SIZE_31));
             }
@@ -528,8 +584,10 @@ public final class BoundaryCellsTest {
 
     private static void readingACell() {
         wrongReads();
-        Check.sentence("Promise 5: FIELD_FIRST: for an ATOM its atom number, for a VAR its v; FIELD_SECOND: 1 if"
-            + " compromised, else 0, for a VAR 0");
+        String[] sentences = {"FIELD_KIND: the kind constant of t",
+            "FIELD_FIRST: for an ATOM, its atom number; for a VAR, its v; for the other kinds, the first part's id",
+            "FIELD_SECOND: for an ATOM, 1 if compromised, else 0; for a VAR, 0; for the other kinds, the second's id",
+            "FIELD_SIZE: its size"};
         IntruderSearch x = new IntruderSearch();
         x.variable(2);
         x.atom(true);
@@ -537,9 +595,13 @@ public final class BoundaryCellsTest {
         x.atom(false);
         x.compose(5, 0, 3);
         x.compose(3, 4, 2);
-        int[][] due = {{2, 2, 0, 1}, {1, 0, 1, 1}, {2, 0, 0, 1}, {1, 1, 0, 1}, {5, 0, 3, 3}, {3, 4, 2, 5}};
-        for (int t = 0; t < due.length; t++) {
-            for (int field = 0; field < 4; field++) {
+        x.compose(4, 5, 1);
+        x.compose(5, 6, 5);
+        int[][] due = {{2, 2, 0, 1}, {1, 0, 1, 1}, {2, 0, 0, 1}, {1, 1, 0, 1}, {5, 0, 3, 3}, {3, 4, 2, 5},
+            {4, 5, 1, 7}, {5, 6, 5, 13}};
+        for (int field = 0; field < 4; field++) {
+            Check.sentence("Promise 5: " + sentences[field]);
+            for (int t = 0; t < due.length; t++) {
                 Check.due("cell(" + t + ", " + field + ")", x.cell(t, field), due[t][field]);
             }
         }
@@ -548,10 +610,10 @@ public final class BoundaryCellsTest {
     /** A cell that was refused must not count as an atom: with no atom there is no assignment. */
     private static void fullTableWithoutAtom() {
         Check.sentence("Promises 2, 3 and 4: MAX_CELLS cells exist, and none of them is an atom");
-        Scene.refusedBy("atom(true)", noAtom(), noAtom(), -1, x -> x.atom(true));
-        Scene.refusedBy("atom(false)", noAtom(), noAtom(), -1, x -> x.atom(false));
-        Scene.refusedBy("variable(1)", noAtom(), noAtom(), -1, x -> x.variable(1));
-        Scene.refusedBy("compose(3, 63, 0)", noAtom(), noAtom(), -1, x -> x.compose(3, 63, 0));
+        Scene.refusedBy("atom(true)", BoundaryCellsTest::noAtom, -1, x -> x.atom(true));
+        Scene.refusedBy("atom(false)", BoundaryCellsTest::noAtom, -1, x -> x.atom(false));
+        Scene.refusedBy("variable(1)", BoundaryCellsTest::noAtom, -1, x -> x.variable(1));
+        Scene.refusedBy("compose(3, 63, 0)", BoundaryCellsTest::noAtom, -1, x -> x.compose(3, 63, 0));
     }
 
     private static IntruderSearch noAtom() {

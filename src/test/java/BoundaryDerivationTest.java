@@ -15,6 +15,8 @@ public final class BoundaryDerivationTest {
         symmetricRules();
         asymmetricBuilding();
         asymmetricOpening();
+        compromisedFlags();
+        nothingElse();
         atomsAreKnownOnlyIfDerived();
         laterCellsCount();
         deepestTerms();
@@ -215,6 +217,60 @@ public final class BoundaryDerivationTest {
             IntruderSearch z = Scene.atoms(2);
             z.learn(z.compose(5, 1, z.compose(op, 0, 1)));
             Check.due("under a composite that looks like a flag", z.derivable(1), false);
+        }
+    }
+
+    private static void compromisedFlags() {
+        Check.sentence("Terms: each atom has a flag, compromised: the intruder holds the private key of that name");
+        for (int flags = 0; flags < 256; flags++) {
+            for (int name = 1; name < 8; name++) {
+                IntruderSearch x = new IntruderSearch();
+                for (int i = 0; i < 8; i++) {
+                    x.atom((flags >> i & 1) != 0);
+                }
+                x.learn(x.compose(5, 0, name));
+                Check.due("opened under atom " + name + ", flags " + flags, x.derivable(0), (flags >> name & 1) != 0);
+            }
+        }
+    }
+
+    /** A term of each kind, with each choice of what else is known; the atoms are m, k and one that is not in it. */
+    private static void nothingElse() {
+        Check.sentence("Derivation: nothing else is in DY(K)");
+        for (int op = 3; op <= 5; op++) {
+            for (int known = 0; known < 8; known++) {
+                for (int flags = 0; flags < 4; flags++) {
+                    IntruderSearch x = new IntruderSearch();
+                    x.atom((flags & 1) != 0);
+                    x.atom((flags & 2) != 0);
+                    x.atom(true);
+                    x.learn(x.compose(op, 0, 1));
+                    for (int i = 0; i < 3; i++) {
+                        if ((known >> i & 1) != 0) {
+                            x.learn(i);
+                        }
+                    }
+                    boolean opened = op == 3 || op == 4 && (known & 2) != 0 || op == 5 && (flags & 2) != 0;
+                    boolean[] due = {opened || (known & 1) != 0, op == 3 || (known & 2) != 0, (known & 4) != 0};
+                    String what = "kind " + op + ", known " + known + ", flags " + flags;
+                    allAndOnly(what, x, op, due);
+                }
+            }
+        }
+    }
+
+    /** The atoms as said, and of the terms built of them those whose parts both are, and the one that was learned. */
+    private static void allAndOnly(String what, IntruderSearch x, int learned, boolean[] atoms) {
+        for (int i = 0; i < 3; i++) {
+            Check.due(what + ": atom " + i, x.derivable(i), atoms[i]);
+        }
+        for (int code = 0; code < 27; code++) {
+            int op = 3 + code % 3;
+            int first = code / 3 % 3;
+            int second = code / 9;
+            boolean due = atoms[first] && atoms[second] || op == learned && first == 0 && second == 1;
+            int t = x.compose(op, first, second);
+            Check.due(what + ": " + op + " of " + first + " and " + second, x.derivable(t), due);
         }
     }
 

@@ -49,6 +49,8 @@ public final class BoundaryScenarioTest {
                 Check.due("known(" + j + ") of " + (i + 1), x.known(j), terms[j]);
             }
         }
+        Check.sentence("Scenario: K0 is in the order learned, holds at most MAX_KNOWN entries, and repeats are kept");
+        Check.same("K0", Check.known(x), " known 3 0 0 1 3 3 2 3");
         Check.due("learn once more", x.learn(0), false);
         Check.due("known(8)", x.known(8), -1);
         IntruderSearch y = Scene.atoms(1);
@@ -73,12 +75,16 @@ public final class BoundaryScenarioTest {
     }
 
     private static void readingK0() {
-        Check.sentence("Promise 7: for every other i, negative ones included, it answers -1");
         for (int count = 0; count <= 8; count++) {
             IntruderSearch x = Scene.atoms(8);
             for (int i = 0; i < count; i++) {
                 x.learn(7 - i);
             }
+            Check.sentence("Promise 7: answers the id of the i-th term of K0 (counted from 0, in the order learned)");
+            for (int i = 0; i < count; i++) {
+                Check.due("known(" + i + ") of " + count, x.known(i), 7 - i);
+            }
+            Check.sentence("Promise 7: for every other i, negative ones included, it answers -1");
             for (int i : Check.edges()) {
                 Check.due("known(" + i + ") of " + count, x.known(i), i >= 0 && i < count ? 7 - i : -1);
             }
@@ -153,6 +159,12 @@ public final class BoundaryScenarioTest {
             }
             made += counts[thread];
         }
+        Check.sentence("Scenario: each thread is a list of steps in the order of addStep");
+        for (int t = 0; t < 6; t++) {
+            int thread = t < counts[2] ? 2 : t < counts[2] + counts[1] ? 1 : 0;
+            int index = t - (thread < 2 ? counts[2] : 0) - (thread < 1 ? counts[1] : 0);
+            Check.due("term of step(" + thread + ", " + index + ")", x.step(thread, index) / 2, t);
+        }
     }
 
     private static void addedSteps() {
@@ -208,8 +220,7 @@ public final class BoundaryScenarioTest {
         }
         for (int thread = 0; thread < 3; thread++) {
             int asked = thread;
-            Scene.refusedBy("step(" + thread + ", 0) of an empty thread", Scene.cellsOnly(), Scene.cellsOnly(), -1,
-                x -> x.step(asked, 0));
+            Scene.refusedBy("step(" + thread + ", 0) of an empty thread", Scene::cellsOnly, -1, x -> x.step(asked, 0));
         }
         Check.sentence("Promise 10: it changes nothing");
         Scene.refused("step(1, 0)", Scene.NOTHING, 2 * Scene.SENT + 1, x -> x.step(1, 0));
@@ -239,13 +250,18 @@ public final class BoundaryScenarioTest {
         Check.sentence("Promise 11: answers false and changes nothing if t is not a valid id");
         for (int t : OUTSIDE) {
             Scene.refused("setSecret(" + t + ")", Scene.NOTHING, 0, x -> Scene.number(x.setSecret(t)));
-            Scene.refusedBy("setSecret(" + t + ") as the first", Scene.withoutSecret(0), Scene.withoutSecret(0), 0,
+            Scene.refusedBy("setSecret(" + t + ") as the first", Scene.sceneWithoutSecret(0), 0,
                 x -> Scene.number(x.setSecret(t)));
         }
         Scene.refused("setSecret(64) in a full table", Scene.CELLS, 0, x -> Scene.number(x.setSecret(64)));
         Check.sentence("Promise 11: the secret becomes t, replacing any earlier one, even an equal one; resets; true");
         Scene.resets("an equal secret", 1, x -> Scene.number(x.setSecret(x.secret())));
         Scene.resets("another secret", 1, x -> Scene.number(x.setSecret(Scene.LOCKED)));
+        IntruderSearch other = Scene.make(Scene.NOTHING, 2);
+        Check.due("setSecret(" + Scene.LOCKED + ")", other.setSecret(Scene.LOCKED), true);
+        Check.due("secret()", other.secret(), Scene.LOCKED);
+        Check.due("search() for the new secret", other.search(), 2);
+        Check.due("its length", other.traceLength(), 0);
         Check.sentence("Promise 11: the term t may contain variables");
         Scene.resets("a variable", 1, x -> Scene.number(x.setSecret(Scene.VARIABLE)));
         Scene.resets("a term with a variable", 1, x -> Scene.number(x.setSecret(Scene.WITH_VARIABLE)));
@@ -260,6 +276,13 @@ public final class BoundaryScenarioTest {
     }
 
     private static void readingTheSecret() {
+        Check.sentence("Scenario: the secret is one term, possibly with variables, or none; initially there is none");
+        IntruderSearch y = Scene.cellsOnly();
+        Check.due("secret() before the first", y.secret(), -1);
+        for (int t = 0; t < Scene.OWN_CELLS; t++) {
+            Check.due("setSecret(" + t + ")", y.setSecret(t), true);
+            Check.due("secret()", y.secret(), t);
+        }
         Check.sentence("Promise 11: secret() answers the id of the secret, or -1 if none was set; it changes nothing");
         IntruderSearch x = Scene.withoutSecret(Scene.CELLS);
         Check.due("secret() where none was set", x.secret(), -1);
@@ -269,11 +292,10 @@ public final class BoundaryScenarioTest {
             x.setSecret(64);
             Check.due("secret() after a refused one", x.secret(), t);
         }
-        Scene.refusedBy("secret() where none was set", Scene.withoutSecret(0), Scene.withoutSecret(0), -1,
-            IntruderSearch::secret);
+        Scene.refusedBy("secret() where none was set", Scene.sceneWithoutSecret(0), -1, IntruderSearch::secret);
         for (int status = 0; status <= 2; status++) {
-            Scene.refusedBy("secret()", Scene.make(0, status), Scene.make(0, status),
-                status == 1 ? Scene.HIDDEN : Scene.WITH_VARIABLE, IntruderSearch::secret);
+            Scene.refusedBy("secret()", Scene.scene(0, status), status == 1 ? Scene.HIDDEN : Scene.WITH_VARIABLE,
+                IntruderSearch::secret);
         }
     }
 }

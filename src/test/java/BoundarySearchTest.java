@@ -11,6 +11,7 @@ public final class BoundarySearchTest {
         everyDeclaredVariableGetsAValue();
         valuesAreAtomsOnly();
         everyAssignmentIsTried();
+        variablesAreReplaced();
         equalTrees();
         emptySchedule();
         everySplitOfSixSteps();
@@ -18,6 +19,8 @@ public final class BoundarySearchTest {
         emptyThreadsDoNotOccur();
         onlyEarlierPositionsCount();
         fullK0();
+        positionsAreSteps();
+        everyReceivedMessageIsDerived();
         lastPositionCountsForTheSecret();
         receivingTeachesNothing();
         shorterFirst();
@@ -34,8 +37,7 @@ public final class BoundarySearchTest {
         Check.sentence("Promise 12: if no secret is set, search() answers NO_SECRET and changes nothing");
         int[] scenes = {Scene.NOTHING, Scene.ATOMS, Scene.CELLS, Scene.KNOWN, Scene.STEPS, Scene.ALL};
         for (int full : scenes) {
-            Scene.refusedBy("search() of scene " + full, Scene.withoutSecret(full), Scene.withoutSecret(full), 3,
-                IntruderSearch::search);
+            Scene.refusedBy("search() of scene " + full, Scene.sceneWithoutSecret(full), 3, IntruderSearch::search);
         }
         IntruderSearch x = Scene.withoutSecret(Scene.NOTHING);
         x.setSecret(-1);
@@ -47,7 +49,7 @@ public final class BoundarySearchTest {
 
     private static void noSecretComesBeforeNoAtom() {
         Check.sentence("Promise 12: no secret is set, and a variable is declared and there is no atom");
-        Scene.refusedBy("search()", variableAlone(), variableAlone(), 3, IntruderSearch::search);
+        Scene.refusedBy("search()", BoundarySearchTest::variableAlone, 3, IntruderSearch::search);
     }
 
     private static IntruderSearch variableAlone() {
@@ -58,7 +60,7 @@ public final class BoundarySearchTest {
     }
 
     private static void noVariable() {
-        Check.sentence("Promise 12: with no variable declared, only the empty assignment is considered");
+        Check.sentence("Assignments and promise 12: with no variable declared, there is the empty assignment only");
         for (int count = 2; count <= 8; count++) {
             IntruderSearch x = Scene.atoms(count);
             x.learn(count - 1);
@@ -72,7 +74,7 @@ public final class BoundarySearchTest {
     }
 
     private static void variableAndNoAtom() {
-        Check.sentence("Promise 12: with a variable declared and no atom, there is no assignment, so SAFE");
+        Check.sentence("Assignments and promise 12: with a variable declared and no atom, there is none, so SAFE");
         for (int declared = 1; declared < 8; declared++) {
             IntruderSearch x = new IntruderSearch();
             for (int v = 0; v < 3; v++) {
@@ -113,7 +115,7 @@ public final class BoundarySearchTest {
             for (int v = 0; v < 3; v++) {
                 Check.due("value(" + v + ") of " + declared, x.value(v), (declared >> v & 1) != 0 ? first : -1);
             }
-            Check.due("replay", Replay.holds(x), true);
+            Check.same("replay", Replay.broken(x), "");
         }
     }
 
@@ -131,7 +133,7 @@ public final class BoundarySearchTest {
     }
 
     private static void everyAssignmentIsTried() {
-        Check.sentence("Assignments: each declared variable may have each atom");
+        Check.sentence("Assignments: an assignment maps every declared variable to an atom, to any of them");
         for (int code = 0; code < 512; code++) {
             int[] atoms = {code / 64, code / 8 % 8, code % 8};
             IntruderSearch x = Scene.atoms(8);
@@ -143,6 +145,46 @@ public final class BoundarySearchTest {
             x.setSecret(x.compose(4, x.compose(3, 8, x.compose(3, 9, 10)), 0));
             Check.searched("pinned", x, "0 | " + atoms[0] + " " + atoms[1] + " " + atoms[2]);
         }
+    }
+
+    /** A variable at each leaf in turn of the largest terms that can still be locked, and variables at all leaves. */
+    private static void variablesAreReplaced() {
+        Check.sentence("Assignments: s(t) is the ground tree obtained by replacing each variable v with the atom s(v)");
+        for (int op = 3; op <= 5; op++) {
+            for (int leaf = 0; leaf < 15; leaf++) {
+                for (int v = 0; v < 3; v++) {
+                    IntruderSearch x = Scene.atoms(4);
+                    int[] ground = new int[15];
+                    int[] open = new int[15];
+                    ground[leaf] = 2;
+                    open[leaf] = x.variable(v);
+                    String due = "0 |" + (v == 0 ? " 2" : " -") + (v == 1 ? " 2" : " -") + (v == 2 ? " 2" : " -");
+                    replaced("leaf " + leaf + " of kind " + op, x, op, ground, open, due);
+                }
+            }
+            IntruderSearch y = Scene.atoms(8);
+            int[] ground = new int[15];
+            int[] open = new int[15];
+            for (int leaf = 0; leaf < 15; leaf++) {
+                ground[leaf] = 7 - leaf % 3;
+                open[leaf] = y.variable(leaf % 3);
+            }
+            replaced("all leaves of kind " + op, y, op, ground, open, "0 | 7 6 5");
+        }
+    }
+
+    /** Locked under an atom that is never known, so that the secret must be just what was learned. */
+    private static void replaced(String what, IntruderSearch x, int op, int[] ground, int[] open, String due) {
+        int known = ground[14];
+        int secret = open[14];
+        for (int leaf = 13; leaf >= 0; leaf--) {
+            known = leaf % 2 == 0 ? x.compose(op, ground[leaf], known) : x.compose(op, known, ground[leaf]);
+            secret = leaf % 2 == 0 ? x.compose(op, open[leaf], secret) : x.compose(op, secret, open[leaf]);
+        }
+        Check.due(what + ": learn", x.learn(x.compose(4, known, 3)), true);
+        Check.due(what + ": setSecret", x.setSecret(x.compose(4, secret, 3)), true);
+        Check.due(what + ": size", x.cell(x.secret(), 3), 31);
+        Check.searched(what, x, due);
     }
 
     private static void equalTrees() {
@@ -288,6 +330,44 @@ public final class BoundarySearchTest {
         }
     }
 
+    private static void positionsAreSteps() {
+        Check.sentence("Attacks: position i stands for step number c of thread q_i, where c counts q_i among q_1..q_i");
+        for (int first = 0; first < 3; first++) {
+            for (int second = 0; second < 3; second++) {
+                if (first != second) {
+                    IntruderSearch x = Scene.atoms(3);
+                    x.addStep(first, SEND, 0);
+                    x.addStep(first, RECEIVE, 1);
+                    x.addStep(first, SEND, 2);
+                    x.addStep(second, RECEIVE, 0);
+                    x.addStep(second, SEND, 1);
+                    x.setSecret(2);
+                    Check.searched("there and back", x, "5 " + first + " " + second + " " + second + " "
+                        + first + " " + first + " | - - -");
+                }
+            }
+        }
+    }
+
+    private static void everyReceivedMessageIsDerived() {
+        Check.sentence("Attacks: s(t) is in DY(K_i) for every position i whose step is RECEIVE t");
+        for (int thread = 0; thread < 3; thread++) {
+            String all = "6 " + (thread + " ").repeat(6) + "| - - -";
+            for (int wrong = 0; wrong < 5; wrong++) {
+                IntruderSearch x = Scene.atoms(3);
+                x.learn(0);
+                for (int index = 0; index < 5; index++) {
+                    x.addStep(thread, RECEIVE, index == wrong ? 1 : 0);
+                }
+                x.addStep(thread, SEND, 2);
+                x.setSecret(2);
+                Check.searched("step " + wrong + " of thread " + thread + " cannot be served", x, "SAFE");
+                x.learn(1);
+                Check.searched("step " + wrong + " of thread " + thread + " can be served", x, all);
+            }
+        }
+    }
+
     private static void lastPositionCountsForTheSecret() {
         Check.sentence("Attacks: s(secret) is in DY(K_(L+1)), which counts the SEND at position L");
         IntruderSearch x = Scene.atoms(3);
@@ -378,10 +458,10 @@ public final class BoundarySearchTest {
             x.setSecret(t);
             Check.due("secret " + t, x.search(), 2);
             Check.due("length of " + t, x.traceLength(), 1);
-            Check.due("replay", Replay.holds(x), true);
+            Check.same("replay", Replay.broken(x), "");
             x.setSecret(3);
             Check.due("past receiving " + t, x.search(), 2);
-            Check.due("replay", Replay.holds(x), true);
+            Check.same("replay", Replay.broken(x), "");
         }
     }
 
@@ -415,8 +495,7 @@ public final class BoundarySearchTest {
     private static void searchAgain() {
         Check.sentence("Promise 12: calling search() again without a reset in between gives the same status and trace");
         for (int status = 1; status <= 2; status++) {
-            Scene.refusedBy("search() again", Scene.make(Scene.ALL, status), Scene.make(Scene.ALL, status), status,
-                IntruderSearch::search);
+            Scene.refusedBy("search() again", Scene.scene(Scene.ALL, status), status, IntruderSearch::search);
             IntruderSearch x = Scene.make(Scene.NOTHING, status);
             String before = Check.outcome(x);
             x.compose(5, Scene.VARIABLE, Scene.SPY);

@@ -31,8 +31,7 @@ public final class BoundaryTraceTest {
         Scene.refused("learn", Scene.ALL, 0, x -> Scene.number(x.learn(Scene.SPY)));
         Scene.refused("addStep", Scene.ALL, 0, x -> Scene.number(x.addStep(1, true, Scene.SPY)));
         Scene.refused("setSecret", Scene.ALL, 0, x -> Scene.number(x.setSecret(64)));
-        Scene.refusedBy("search", Scene.withoutSecret(Scene.ALL), Scene.withoutSecret(Scene.ALL), 3,
-            IntruderSearch::search);
+        Scene.refusedBy("search", Scene.sceneWithoutSecret(Scene.ALL), 3, IntruderSearch::search);
     }
 
     private static void gettersChangeNothing() {
@@ -61,6 +60,8 @@ public final class BoundaryTraceTest {
     }
 
     private static void theStatus() {
+        Check.sentence("Status and reset: initially the status is NOT_SEARCHED");
+        Check.due("status() of a new object", new IntruderSearch().status(), 0);
         Check.sentence("Promise 13: the status as set by the constructor, by the most recent reset, or by search");
         IntruderSearch x = new IntruderSearch();
         Check.due("status() at the start", x.status(), 0);
@@ -82,7 +83,7 @@ public final class BoundaryTraceTest {
         Check.due("status() after ATTACK again", x.status(), 2);
         Check.sentence("Promise 13: it changes nothing");
         for (int status = 0; status <= 2; status++) {
-            Scene.refusedBy("status()", Scene.make(0, status), Scene.make(0, status), status, IntruderSearch::status);
+            Scene.refusedBy("status()", Scene.scene(0, status), status, IntruderSearch::status);
         }
     }
 
@@ -123,16 +124,14 @@ public final class BoundaryTraceTest {
             for (int i : Check.edges()) {
                 Check.due("traceThread(" + i + ") of " + length, x.traceThread(i), i >= 0 && i < length ? due[i] : -1);
             }
-            Check.due("replay", Replay.holds(x), true);
+            Check.same("replay", Replay.broken(x), "");
         }
         Check.sentence("Promise 14: neither changes anything");
         Scene.refused("traceThread(-1)", Scene.NOTHING, -1, x -> x.traceThread(-1));
         Scene.refused("traceThread(1)", Scene.NOTHING, -1, x -> x.traceThread(1));
         for (int status = 0; status <= 2; status++) {
-            Scene.refusedBy("traceLength()", Scene.make(0, status), Scene.make(0, status), status == 2 ? 1 : -1,
-                IntruderSearch::traceLength);
-            Scene.refusedBy("traceThread(0)", Scene.make(0, status), Scene.make(0, status), status == 2 ? 1 : -1,
-                x -> x.traceThread(0));
+            Scene.refusedBy("traceLength()", Scene.scene(0, status), status == 2 ? 1 : -1, IntruderSearch::traceLength);
+            Scene.refusedBy("traceThread(0)", Scene.scene(0, status), status == 2 ? 1 : -1, x -> x.traceThread(0));
         }
     }
 
@@ -152,10 +151,13 @@ public final class BoundaryTraceTest {
     }
 
     private static void staleTraces() {
-        Check.sentence("Status and reset: a reset sets the status to NOT_SEARCHED and drops the trace");
         for (int length = 0; length <= 6; length++) {
+            Check.sentence("Status and reset: with ATTACK, the least attack is held as the trace");
             IntruderSearch x = attackOf(length);
             Check.due("search", x.search(), 2);
+            Check.due("length", x.traceLength(), length);
+            Check.same("replay", Replay.broken(x), "");
+            Check.sentence("Status and reset: a reset sets the status to NOT_SEARCHED and drops the trace");
             x.setSecret(x.secret());
             Check.same("after the reset", Check.outcome(x), "status 0 " + Scene.NO_OUTCOME);
             x.search();
@@ -194,8 +196,8 @@ public final class BoundaryTraceTest {
         for (int v = -1; v <= 3; v++) {
             int asked = v;
             for (int status = 0; status <= 2; status++) {
-                Scene.refusedBy("value(" + v + ")", Scene.make(0, status), Scene.make(0, status),
-                    status == 2 && v == 1 ? Scene.SPY : -1, x -> x.value(asked));
+                Scene.refusedBy("value(" + v + ")", Scene.scene(0, status), status == 2 && v == 1 ? Scene.SPY : -1,
+                    x -> x.value(asked));
             }
         }
     }

@@ -2,11 +2,21 @@
 final class Check {
     private static final int[] EDGES = {
         Integer.MIN_VALUE, Integer.MIN_VALUE + 1, -65, -64, -3, -2, -1, 0, 1, 2, 3, 4, 5, 6, 7, 8, 9,
-        31, 32, 33, 63, 64, 65, 127, 128, 1 << 16, Integer.MAX_VALUE - 1, Integer.MAX_VALUE
+        31, 32, 33, 63, 64, 65, 127, 128, 256, 257, 258, 1 << 16, (1 << 16) + 1, (1 << 16) + 2, (1 << 24) + 1,
+        Integer.MAX_VALUE - 1, Integer.MAX_VALUE
     };
 
     private static int wrong = 0;
     private static String sentence = "";
+
+    static {
+        // No call may throw; one that does is told with the sentence that it was made for.
+        Thread.setDefaultUncaughtExceptionHandler((thread, fault) -> {
+            System.out.println(sentence + "a call threw " + fault);
+            fault.printStackTrace();
+            System.exit(1);
+        });
+    }
 
     private Check() {
     }
@@ -121,7 +131,7 @@ final class Check {
             same(what + ": no trace", outcome(x), "status " + answer + " " + Scene.NO_OUTCOME);
             return;
         }
-        due(what + ": replay", Replay.holds(x), true);
+        same(what + ": replay", Replay.broken(x), "");
         StringBuilder got = new StringBuilder();
         got.append(x.traceLength());
         for (int i = 0; i < x.traceLength(); i++) {

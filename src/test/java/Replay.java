@@ -3,6 +3,8 @@ import java.util.Set;
 
 /** Replays the trace of an attack, read through the getters alone; shared by the tests, not a test itself. */
 final class Replay {
+    private static final String NOTHING = "";
+
     private final IntruderSearch x;
     private final Set<Model.Tree> known = new HashSet<>();
     private final int[] done = new int[3];
@@ -11,37 +13,49 @@ final class Replay {
         this.x = x;
     }
 
-    /** Whether the trace that is held meets each of the four points of promise 12. */
-    static boolean holds(IntruderSearch x) {
+    /** The first point of promise 12 that the trace does not meet, in the document's words; nothing if it meets all. */
+    static String broken(IntruderSearch x) {
         return new Replay(x).run();
     }
 
-    private boolean run() {
+    private String run() {
+        if (x.status() != 2 || x.traceLength() < 0) {
+            return "Promise 12: the least attack becomes the trace";
+        }
+        for (int t = 0; t < 64; t++) {
+            if (x.cell(t, 0) == 2 && x.cell(x.value(x.cell(t, 1)), 0) != 1) {
+                return "Promise 12: s(v) is the atom whose cell id is value(v) for each declared v";
+            }
+        }
         for (int i = 0; i < 8 && x.known(i) != -1; i++) {
             known.add(tree(x.known(i)));
         }
-        boolean right = x.status() == 2 && x.traceLength() >= 0;
-        for (int i = 0; right && i < x.traceLength(); i++) {
-            right = takeStep(x.traceThread(i));
+        String broken = NOTHING;
+        for (int i = 0; broken.equals(NOTHING) && i < x.traceLength(); i++) {
+            broken = takeStep(x.traceThread(i));
         }
-        return right && derives(tree(x.secret()));
+        if (!broken.equals(NOTHING) || derives(tree(x.secret()))) {
+            return broken;
+        }
+        return "Promise 12: s(secret()) lies in DY of K0 together with s(u) for all SEND u at positions 1..L";
     }
 
-    private boolean takeStep(int thread) {
+    private String takeStep(int thread) {
         if (thread < 0 || thread > 2) {
-            return false;
+            return "Promise 12: every q_i is in 0..2";
         }
         int step = x.step(thread, done[thread]);
         if (step == -1) {
-            return false;
+            return "Promise 12: each thread j occurs among q_1..q_L at most n_j times";
         }
         done[thread]++;
         Model.Tree message = tree(step / 2);
-        boolean send = step % 2 == 1;
-        if (send) {
+        if (step % 2 == 1) {
             known.add(message);
+            return NOTHING;
         }
-        return send || derives(message);
+        return derives(message) ? NOTHING
+            : "Promise 12: every received message s(t) lies in DY of K0 together with s(u) for every earlier SEND u";
     }
 
     private boolean derives(Model.Tree goal) {
@@ -54,8 +68,8 @@ final class Replay {
         if (kind == 2) {
             return tree(x.value(x.cell(t, 1)));
         }
-        if (kind == 1) {
-            return new Model.Tree(1, x.cell(t, 1), x.cell(t, 2), null, null);
+        if (kind < 3) {
+            return new Model.Tree(kind, x.cell(t, 1), x.cell(t, 2), null, null);
         }
         return new Model.Tree(kind, 0, 0, tree(x.cell(t, 1)), tree(x.cell(t, 2)));
     }

@@ -30,6 +30,11 @@ final class Scene {
         long on(IntruderSearch x);
     }
 
+    /** Makes an object, the same one each time. */
+    interface Maker {
+        IntruderSearch make();
+    }
+
     /** What some of the getters tell. */
     interface Part {
         String of(IntruderSearch x);
@@ -152,25 +157,43 @@ final class Scene {
         String values = (full & VARIABLES) != 0 ? "-1 0 1 0 -1" : "-1 -1 1 -1 -1";
         Check.same("outcome of the scene", Check.outcome(x), status != 2 ? "status " + status + " " + NO_OUTCOME
             : "status 2 length 1 threads -1 1 -1 -1 -1 -1 -1 -1 values " + values);
-        looksRight(x, full);
+        // Only the outcome is read after the search: another getter that drops it must not spoil the scene.
         return x;
     }
 
     /** In each status: the call answers as due, no getter answers anything else after it, and no later call either. */
     static void refused(String what, int full, long due, Call call) {
         for (int status = 0; status <= 2; status++) {
-            refusedBy(what + ", status " + status, make(full, status), make(full, status), due, call);
+            refusedBy(what + ", status " + status, scene(full, status), due, call);
         }
     }
 
-    /** As above, for two objects made by the same calls: the second one is spared the refused call. */
-    static void refusedBy(String what, IntruderSearch x, IntruderSearch spared, long due, Call call) {
+    static Maker scene(int full, int status) {
+        return () -> make(full, status);
+    }
+
+    static Maker sceneWithoutSecret(int full) {
+        return () -> withoutSecret(full);
+    }
+
+    /** As above, for the objects of one maker. */
+    static void refusedBy(String what, Maker maker, long due, Call call) {
+        keepsOutcome(what, maker.make(), due, call);
+        IntruderSearch x = maker.make();
+        IntruderSearch spared = maker.make();
         String before = Check.seen(x);
         Check.due(what, call.on(x), due);
         Check.same(what + ": what the getters answer after it", Check.seen(x), before);
         Check.due(what + ", once more", call.on(x), due);
         Check.same(what + ": what the getters answer after two of it", Check.seen(x), before);
         Check.same(what + ": what later calls answer", course(x), course(spared));
+    }
+
+    /** Asks nothing else beforehand: where another getter drops the outcome, it would hide that the call does so. */
+    private static void keepsOutcome(String what, IntruderSearch x, long due, Call call) {
+        String before = Check.outcome(x);
+        Check.due(what, call.on(x), due);
+        Check.same(what + ": status and trace after it", Check.outcome(x), before);
     }
 
     /** In each status: the call answers as due, and then the status is NOT_SEARCHED and there is no trace. */

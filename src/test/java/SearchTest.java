@@ -7,6 +7,7 @@ public final class SearchTest {
     private static final boolean RECEIVE = false;
 
     public static void main(String[] args) {
+        exampleOfTheReadme();
         shorterComesFirst();
         lesserThreadComesFirst();
         lesserThreadComesFirstLater();
@@ -31,6 +32,21 @@ public final class SearchTest {
         readingTheTrace();
         largestSearch();
         Check.end();
+    }
+
+    private static void exampleOfTheReadme() {
+        IntruderSearch x = new IntruderSearch();
+        int nonce = x.atom(false);
+        int spy = x.atom(true);
+        int peer = x.variable(0);
+        int message = x.compose(AENC, nonce, peer);
+        x.addStep(0, SEND, message);
+        x.setSecret(nonce);
+        Check.due("search()", x.search(), IntruderSearch.ATTACK);
+        Check.due("traceLength()", x.traceLength(), 1);
+        Check.due("traceThread(0)", x.traceThread(0), 0);
+        Check.due("value(0)", x.value(0), spy);
+        Check.due("derivable(nonce)", x.derivable(nonce), false);
     }
 
     private static void shorterComesFirst() {
