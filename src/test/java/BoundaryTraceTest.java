@@ -39,6 +39,10 @@ public final class BoundaryTraceTest {
         int[] scenes = {Scene.NOTHING, Scene.ALL};
         for (int full : scenes) {
             Scene.refused("all getters at all edges", full, 0, BoundaryTraceTest::readAll);
+            for (int status = 0; status <= 2; status++) {
+                // Making a scene reads its status and trace, before anything else could be compared.
+                Scene.looksRight(Scene.make(full, status), full);
+            }
         }
     }
 

@@ -127,7 +127,7 @@ final class Scene {
     }
 
     /** The scene was made by accepted calls; this sees to it that none of them did more than it should. */
-    private static void looksRight(IntruderSearch x, int full) {
+    static void looksRight(IntruderSearch x, int full) {
         int[][] cells = {{1, 0, 0, 1}, {1, 1, 1, 1}, {2, 1, 0, 1}, {1, 2, 0, 1}, {3, 3, 2, 3},
             {4, 3, 0, 3}, {3, 3, 3, 3}, {3, 6, 6, 7}, {3, 7, 7, 15}, {3, 8, 8, 31}};
         for (int t = 0; t < OWN_CELLS; t++) {
